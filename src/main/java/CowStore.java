@@ -82,7 +82,6 @@ public final class CowStore {
             freed += putBlock(v, p, EMPTY);
         }
         there[v] = false;
-        writable[v] = false;
         return freed;
     }
 
