@@ -2,15 +2,21 @@
 final class Checks {
     private static int wrong = 0;
     private static int made = 0;
+    private static String sentence = "";
 
     private Checks() {
+    }
+
+    /** The words of the document by which the answers from now on are due; told with each that is wrong. */
+    static void sentence(String words) {
+        sentence = "[" + words + "] ";
     }
 
     static void due(String call, long got, long want) {
         made++;
         if (got != want) {
             wrong++;
-            System.out.println(call + " answered " + got + ", due is " + want);
+            System.out.println(sentence + call + " answered " + got + ", due is " + want);
         }
     }
 
@@ -47,5 +53,13 @@ final class Checks {
             s.write(1, p, 200 + p);
         }
         return s;
+    }
+
+    /** Makes both copies of each of the blocks BAD. */
+    static void breakBlocks(CowStore s, int... blocks) {
+        for (int block : blocks) {
+            s.spoil(0, block);
+            s.spoil(1, block);
+        }
     }
 }
