@@ -31,6 +31,7 @@ public final class CountsEdgesTest {
         promise18FirstAndLast();
         promise18IfThereIsNone();
         promise18IfAVolumeIsNotThere();
+        promises15To18ChangeNothing();
         Checks.end();
     }
 
@@ -344,5 +345,13 @@ public final class CountsEdgesTest {
             Checks.due("difference(" + v + ", 0, 0)", Twins.busy().difference(v, 0, 0), -1);
             Checks.due("difference(0, " + v + ", 0)", Twins.busy().difference(0, v, 0), -1);
         }
+    }
+
+    private static void promises15To18ChangeNothing() {
+        Checks.sentence("15 to 18: no block is LOOKED AT");
+        Twins.unchanged("holders(3)", Twins::crowded, s -> s.holders(3));
+        Twins.unchanged("own(0)", Twins::crowded, s -> s.own(0));
+        Twins.unchanged("differ(0, 1)", Twins::crowded, s -> s.differ(0, 1));
+        Twins.unchanged("difference(0, 1, 3)", Twins::crowded, s -> s.difference(0, 1, 3));
     }
 }

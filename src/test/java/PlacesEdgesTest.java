@@ -33,6 +33,7 @@ public final class PlacesEdgesTest {
         promise9FirstAndLast();
         promise9IfEmpty();
         promise9IfNotThere();
+        promise9ChangesNothing();
         Checks.end();
     }
 
@@ -360,5 +361,10 @@ public final class PlacesEdgesTest {
         }
         s.destroy(1);
         Checks.due("not there any more: blockAt(1, 0)", s.blockAt(1, 0), -1);
+    }
+
+    private static void promise9ChangesNothing() {
+        Checks.sentence("9: The block (not LOOKED AT)");
+        Twins.unchanged("blockAt(0, 3)", Twins::crowded, s -> s.blockAt(0, 3));
     }
 }

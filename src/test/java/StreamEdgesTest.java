@@ -11,6 +11,7 @@ public final class StreamEdgesTest {
         promise19FirstAndLastPlace();
         promise19AgainstNoVolume();
         promise19ABlockAtTwoPlaces();
+        promise19OnlyTheseAreLookedAt();
         promise19TheValuesOfThatTime();
         promise19BadIfVIsNotThere();
         promise19BadIfWIsNotThere();
@@ -121,6 +122,23 @@ public final class StreamEdgesTest {
         Checks.due("entry(0)", s.entry(0), 64 * 100);
         Checks.due("entry(1)", s.entry(1), 63 + 64 * 100);
         Checks.due("HEALED once: count(3)", s.count(3), 1);
+    }
+
+    private static void promise19OnlyTheseAreLookedAt() {
+        Checks.sentence("19: with the value of the block, LOOKED AT");
+        CowStore s = Checks.filled(4);
+        s.snapshot(0, false);
+        s.write(1, 2, 7);
+        s.punch(1, 3);
+        for (int block = 0; block < 5; block++) {
+            s.spoil(0, block);
+        }
+        Checks.due("send(1, 0)", s.send(1, 0), 2);
+        Checks.due("count(3)", s.count(3), 1);
+        Checks.due("both have it: spoil(0, 0)", s.spoil(0, 0), false);
+        Checks.due("w alone has it: spoil(0, 2)", s.spoil(0, 2), false);
+        Checks.due("w alone has it: spoil(0, 3)", s.spoil(0, 3), false);
+        Checks.due("v has it: spoil(0, 4)", s.spoil(0, 4), true);
     }
 
     private static void promise19TheValuesOfThatTime() {
